@@ -7,6 +7,7 @@ public final class OrdersTest {
     public static void main(String[] args) {
         promise7Least();
         promise8BestAt();
+        onlyTheLastOrderIsBest();
         promise9Begins();
         promise10LeastWith();
         promise11LeastFirst();
@@ -68,6 +69,23 @@ public final class OrdersTest {
         Check.due("8 gap 2", same.bestAt(2), 4);
         Check.due("8 gap 3", same.bestAt(3), 5);
         Check.due("8 gap 4", same.bestAt(4), HeadTail.NONE);
+    }
+
+    /** Every job has to begin at its release, so 5, 4, 3, 2, 1, 0 alone is best. */
+    private static void onlyTheLastOrderIsBest() {
+        HeadTail x = new HeadTail();
+        for (int j = 0; j < 6; j++) {
+            x.add(8 * (5 - j), 8, 8 * j);
+        }
+        Check.due("7 last order", x.least(), 48);
+        for (int k = 0; k < 6; k++) {
+            Check.due("8 last order " + k, x.bestAt(k), 5 - k);
+            Check.due("9 last order " + k, x.begins(k), 8 * (5 - k));
+        }
+        Check.due("10 last order", x.leastWith(5, 0), 48);
+        Check.due("11 last order", x.leastFirst(5), 48);
+        Check.due("13 last order", x.tailFor(0, 48), 0);
+        Check.due("14 last order", x.releaseFor(0, 48), 40);
     }
 
     private static void promise9Begins() {
