@@ -1,6 +1,6 @@
 /** All promises: long mixed runs of calls, each answer beside the one of the plain Model. */
 public final class AgainstModelTest {
-    private static final int RUNS = 30;
+    private static final int RUNS = 90;
     private static final int CALLS = 512;
     private static final int[] ODD = {Integer.MIN_VALUE, -1, 6, 13, 41, 200, 201, Integer.MAX_VALUE};
 
@@ -31,7 +31,7 @@ public final class AgainstModelTest {
         int r = number(0, spread);
         int p = number(1, 1 + Math.min(spread, 11));
         int q = number(0, spread);
-        int n = next(8) == 0 ? number(0, 260) : m.least() + next(31) - 10;
+        int n = kind < 14 ? 0 : bound(m);
         String numbers = "(i " + i + ", j " + j + ", r " + r + ", p " + p + ", q " + q + ", n " + n + ")";
         switch (kind) {
             case 0, 1, 2 -> Check.due(at + "add" + numbers, x.add(r, p, q), m.add(r, p, q));
@@ -51,6 +51,11 @@ public final class AgainstModelTest {
             case 14 -> Check.due(at + "tailFor" + numbers, x.tailFor(j, n), m.tailFor(j, n));
             default -> Check.due(at + "releaseFor" + numbers, x.releaseFor(j, n), m.releaseFor(j, n));
         }
+    }
+
+    /** Mostly near the least length, where the answers differ. */
+    private static int bound(Model m) {
+        return next(8) == 0 ? number(0, 260) : m.least() + next(31) - 10;
     }
 
     /** Mostly a number from low to high, now and then one that is likely out of its range. */

@@ -47,12 +47,25 @@ public final class FaceTest {
         for (String member : seen) {
             Check.due("may have " + member, DUE.contains(member), true);
         }
+        classAlone();
+        constants();
+        Check.end();
+    }
+
+    /** Another class above it, or an interface, would bring members of its own. */
+    private static void classAlone() {
         int modifiers = HeadTail.class.getModifiers();
         Check.due("public final", modifiers, Modifier.PUBLIC | Modifier.FINAL);
         Check.due("nested classes", HeadTail.class.getDeclaredClasses().length, 0);
+        Check.due("no class above", HeadTail.class.getSuperclass() == Object.class, true);
+        Check.due("interfaces", HeadTail.class.getInterfaces().length, 0);
+        Check.due("type parameters", HeadTail.class.getTypeParameters().length, 0);
+        Check.due("no package", HeadTail.class.getPackageName().isEmpty(), true);
+    }
+
+    private static void constants() {
         Check.due("BAD", HeadTail.BAD, -1);
         Check.due("FULL", HeadTail.FULL, -2);
         Check.due("NONE", HeadTail.NONE, -1);
-        Check.end();
     }
 }
