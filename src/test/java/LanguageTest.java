@@ -5,7 +5,7 @@ import java.util.List;
 
 /**
  * The program keeps the rules of LANGUAGE.md that can be read off its file. Rule 1 is FaceTest's
- * too, and rule 7 is AnyCallTest's; rule 9 rules nothing out, and rule 11 follows from rule 3.
+ * too, and rule 7 is AnyCallTest's; rule 9 rules nothing out, and 11 follows from 3 and 5.
  * So that the reading can be trusted, small classes that break one rule each are read as well.
  */
 public final class LanguageTest {
@@ -60,11 +60,14 @@ public final class LanguageTest {
         fine("");
         fine("static final int N = 3; private final int[] a = new int[N]; private long[] b = new long[7];");
         fine("private final byte[] a; public HeadTail() { a = new byte[2]; f(); } private void f() { }");
-        fine("int f(int n) { int k = 0; while (k < n && k < 9) { k++; } do { k -= 2; } while (k > 0); return k; }");
-        fine("private final int[] a = new int[3]; int f() { int[] b = a; return g(b); } int g(int[] c) { return c[0]; }");
-        fine("private final int[] a = new int[3]; int f() { int s = 0; for (int e : a) { s += e; } return s; }");
-        fine("char f(long n) { return (char) (n >>> 3); } boolean g(short n) { return n == HeadTail.N; } static final int N = 1;");
-        fine("int f(int n) { switch (n) { case 1: return 4; default: return n > 3 ? this.g(n) : 2; } } int g(int n) { return n; }");
+        fine("int f(int n) { int k = 0; while (k < n && k < 9) { k++; } return k; }");
+        fine("int f(int n) { int k = n; do { k -= 2; } while (k > 0); return k; }");
+        fine("private int[] a = new int[3]; int f() { int[] b = a; return g(b); } int g(int[] c) { return c[0]; }");
+        fine("private int[] a = new int[3]; int f() { int s = 0; for (int e : a) { s += e; } return s; }");
+        fine("char f(long n) { return (char) (n >>> 3); }");
+        fine("static final int N = 1; boolean f(short n) { return n == HeadTail.N; }");
+        fine("int f(int n) { switch (n) { case 1: return 4; default: return n > 3 ? this.g() : 2; } }"
+            + " int g() { return 5; }");
         fine("void a() { b(); } void b() { c(); } void c() { d(); } void d() { e(); } void e() { f(); } void f() { }");
     }
 
